@@ -797,17 +797,18 @@ public final class WaistSand {
         }
 
         private void tellShore(Shore shore, int kind, int at) {
-            int cell = Shore.cellAt(numbers[at], numbers[at + 1]);
             switch (kind) {
-                case BEARS_LINE: shore.bears[cell] = numbers[at + 2]; break;
-                case HEAP_LINE: shore.heaps |= 1L << cell; break;
-                case SHINE_LINE: shore.shines |= 1L << cell; break;
-                case HOLE_LINE: shore.hole = cell; break;
-                case PERSON_LINE:
-                    shore.addPerson(numbers[at], Shore.cellAt(numbers[at + 1], numbers[at + 2]));
-                    break;
+                case BEARS_LINE: shore.bears[placeAt(at)] = numbers[at + 2]; break;
+                case HEAP_LINE: shore.heaps |= 1L << placeAt(at); break;
+                case SHINE_LINE: shore.shines |= 1L << placeAt(at); break;
+                case HOLE_LINE: shore.hole = placeAt(at); break;
+                case PERSON_LINE: shore.addPerson(numbers[at], placeAt(at + 1)); break;
                 default: shore.boards = numbers[at];
             }
+        }
+
+        private int placeAt(int at) {
+            return Shore.cellAt(numbers[at], numbers[at + 1]);
         }
     }
 

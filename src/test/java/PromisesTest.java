@@ -123,7 +123,11 @@ public final class PromisesTest {
         due("THIN", 4, () -> x.count(2));
         due("TIDE", 999, () -> x.count(8));
         due("what was told ahead stays", 9, () -> x.count(14));
-        for (int i = 3; i <= 12; i++) {
+        due("all at their least", 3, () -> Check.beach(x, "legs 0 0;thin 0;calm 0;water 0;tide 0;slip 0;boards 0;"
+            + "move 0 up 0 down 0 stirs 0 takes 1;bears 0 0 0;heap 0 0;shine 0 0;hole 0 0;person 1 at 0 0"));
+        counts(x, "all at their least", 0, 0, 0, 0, 0, 0, 0, 0, 0, 1, 0, 0, 0, 2, 0, 3, -1, 0, 0);
+        Check.beach(x, "boards 9");
+        for (int i = 5; i <= 12; i++) {
             due("text " + i, i, () -> Check.beach(x, "   "));
         }
         due("a wrong text first", IAE, () -> Check.beach(x, "boards x"));
@@ -189,6 +193,9 @@ public final class PromisesTest {
     private static void law() {
         WaistSand x = new WaistSand();
         due("no lines", 0, () -> Check.law(x, "  "));
+        due("a line of 0", 1, () -> Check.law(x, "down 0 if 0<0"));
+        due("a law of one", 1, () -> x.count(16));
+        due("no lines", 0, () -> Check.law(x, ""));
         due("a law of none", 0, () -> x.count(16));
         due("two lines", 2, () -> Check.law(x, "up 1;settle 9if not(leg+1<other+22 or lying)and move>0"));
         due("two lines", 2, () -> x.count(16));
@@ -453,7 +460,8 @@ public final class PromisesTest {
         due("three draws each", seeded, () -> x.seed(LEAST));
         due("what it was", LEAST, () -> x.seed(1));
         due("sixty", 60, () -> x.moves(60));
-        due("one act each", 2, () -> x.count(18));
+        due("one", 1, () -> x.moves(1));
+        due("one act each", 3, () -> x.count(18));
         for (int n : new int[] {0, 61, -1, LEAST, MOST}) {
             due("none", IAE, () -> x.moves(n));
         }
@@ -540,6 +548,18 @@ public final class PromisesTest {
         due("by 2 and 4 alone", List.of(4 + 1, 8), () -> List.of(two.best(20, 0), two.best(20, 1)));
         due("by 2 alone", List.of(4, 5), () -> List.of(two.best(4, 0), two.best(4, 1)));
         due("by 2 alone: 2 of 6", 12, () -> two.soonest(4));
+        WaistSand again = Check.told("legs 2 0;move 0 up 1 down 0 stirs 0 takes 1;move 1 up 2 down 0 stirs 0 takes 5;"
+            + "move 2 up 9 down 0 stirs 0 takes 3");
+        due("two jerks", List.of(0, 0, -1), () -> List.of(again.best(127, 0), again.best(127, 1), again.best(127, 2)));
+        Check.beach(again, "legs 4 0");
+        due("an answer of before says nothing of now", List.of(4, -1), () -> List.of(again.best(6, 0), again.best(6, 1)));
+        Check.law(again, "up 2 if move>4");
+        due("nor under another law", List.of(2, 10, 10), () -> List.of(again.soonest(32), again.best(32, 0), again.best(32, 1)));
+        WaistSand thin = Check.told("legs 3 3;thin 5", "up 3 if lying and move>4");
+        thin.moved(6, 0);
+        due("out in thin sand and lying", List.of(1, 10), () -> List.of(thin.soonest(127), thin.best(127, 0)));
+        due("out", List.of(0, 1, 5, 1), () -> List.of(thin.moved(5, 0), thin.count(9), thin.count(2), thin.count(3)));
+        due("out", List.of(0, 1), () -> List.of(thin.soonest(0), thin.more()));
     }
 
     // Promises 20, 21
@@ -561,6 +581,8 @@ public final class PromisesTest {
         due("just in time", 0, x::latest);
         Check.beach(x, "tide 3");
         due("below 0", -1, x::latest);
+        Check.beach(x, "tide 2");
+        due("far below 0", -1, x::latest);
         WaistSand none = Check.told("legs 2 2");
         due("never", -1, none::latest);
         due("never, nor lying", -99, () -> none.worth(0));
@@ -603,6 +625,8 @@ public final class PromisesTest {
         WaistSand stirred = Check.told("legs 4 4", "stir 1");
         due("ever thinner", -1, stirred::round);
         due("THIN 0 to 5, or lying 1 to 5", 11, stirred::more);
+        WaistSand jerk = Check.told("legs 5 4", "stir 1 if move>0 or leg<5");
+        due("by a jerk of LEG 0 alone", 1, jerk::round);
         WaistSand out = new WaistSand();
         due("nothing moves", -1, out::round);
         due("just this one", 1, out::more);
@@ -630,6 +654,7 @@ public final class PromisesTest {
         WaistSand never = Check.told("legs 2 2");
         due("no way without", true, () -> never.better(200, 20));
         due("202", 202, () -> never.run(200, 20));
+        due("3", 3, () -> never.run(1, 20));
         WaistSand out = new WaistSand();
         out.talk();
         due("out", 1, () -> out.run(10, 1));
@@ -740,6 +765,8 @@ public final class PromisesTest {
         due("three of four", 3, x::placed);
         Check.beach(x, "bears 2 0 9");
         due("all four", 4, x::placed);
+        WaistSand weak = Check.told("hole 0 0;bears 1 0 0;bears 2 0 0;bears 1 1 0;bears 0 1 0;bears 0 2 0;person 1 at 0 0");
+        due("the hole is none of them", 0, weak::placed);
         for (int no : new int[] {0, 10, -1, LEAST, MOST}) {
             due("no weight", IAE, () -> x.rope(no));
         }
@@ -895,7 +922,7 @@ public final class PromisesTest {
         x.image();
         x.talk();
         due("an image is no act, and takes none", 2, () -> x.count(18));
-        Check.beach(x, "legs 1 1;person 3 at 1 1;heap 1 1;hole 7 7;bears 1 1 9;tide 9;slip 9;move 1 up 9 down 9 stirs 5 takes 9");
+        Check.beach(x, "legs 1 1;person 3 at 1 1;heap 1 1;shine 1 1;hole 7 7;bears 1 1 9;tide 9;slip 9;move 1 up 9 down 9 stirs 5 takes 9");
         Check.law(x, "up 1;up 2");
         x.board(3);
         x.seed(9);
@@ -906,6 +933,7 @@ public final class PromisesTest {
         due("moves as told then", 0, () -> x.move(1, 0));
         due("bears", 5, () -> x.cell(9, 0));
         due("heap", 0, () -> x.cell(9, 1));
+        due("shine", 0, () -> x.cell(9, 2));
         due("law", 3, () -> x.would(1, 0, 0));
         due("ways by that law", true, () -> x.soonest(127) > 0);
         due("nothing to undo", false, x::undo);
