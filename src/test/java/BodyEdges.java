@@ -96,6 +96,8 @@ final class BodyEdges {
         due("1 1", 0, () -> Check.told("legs 1 1").count(9));
         due("0 0, thin 5", 1, () -> Check.told("legs 0 0;thin 5").count(9));
         due("0 1, thin 0", 0, () -> Check.told("legs 0 1;thin 0").count(9));
+        due("0 0, thin 5, lying", 1, () -> lyingOne("legs 0 0;thin 5").count(9));
+        due("0 1, thin 0, lying", 0, () -> lyingOne("legs 0 1;thin 0").count(9));
         Doc.says("Nothing moves, if one is OUT, or DROWNED.", 10, 11, 16);
         due("0 1 moves", 1, () -> Check.told("legs 0 1").moved(0, 0));
         due("1 0 moves", 1, () -> Check.told("legs 1 0").moved(0, 0));

@@ -144,7 +144,11 @@ final class ShoreEdges {
         Doc.says("FAR: the greatest DISTANCE (what X and what Y are apart, together) of a CELL in REACH from the own one.", 9);
         due("from corner to corner", 14, () -> Check.told("person 5 at 0 0").person(0, 3));
         due("from corner to corner", 14, () -> Check.told("person 5 at 7 0").person(0, 3));
-        due("from X 3 Y 3", 8, () -> Check.told("person 5 at 3 3").person(0, 3));
+        for (int cell = 0; cell < 64; cell++) {
+            int x = cell % 8;
+            int y = cell / 8;
+            due("from X " + x + " Y " + y, Math.max(x, 7 - x) + Math.max(y, 7 - y), () -> Check.told("person 5 at " + x + " " + y).person(0, 3));
+        }
         due("nowhere", 0, () -> Check.told("person 6 at 3 3").person(0, 3));
         due("one step", 1, () -> Check.told("person 6 at 3 3;bears 3 2 6").person(0, 3));
         due("not for one who is quick", 0, () -> Check.told("person 6 at 3 3;bears 3 2 5").person(0, 3));
@@ -411,6 +415,8 @@ final class ShoreEdges {
         due("the light ones leave the strong CELL to the heavy one", 3, () -> Check.told(weak + "person 3 at 0 0;person 9 at 0 0;person 1 at 0 0").placed());
         due("one of two heavy ones", 3, () -> Check.told(weak + "person 3 at 0 0;person 9 at 0 0;person 4 at 0 0;person 1 at 0 0").placed());
         due("of three light ones one takes the strong CELL", 3, () -> Check.told(weak + "person 3 at 0 0;person 9 at 0 0;person 3 at 0 0;person 3 at 0 0").placed());
-        due("PLACED of no CELL", 0, () -> toldRows("person 1 at 0 0", 0, 0, 0, 0, 0, 0, 0, 0).placed());
+        due("one, whatever CELLS there are", 1, () -> Check.told(weak + "person 1 at 0 0").placed());
+        due("1 on 1", 1, () -> toldRows("person 1 at 0 0;person 2 at 0 0", 1, 1, 1, 1, 1, 1, 1, 1).placed());
+        due("no CELL bears", 0, () -> toldRows("person 1 at 0 0", 0, 0, 0, 0, 0, 0, 0, 0).placed());
     }
 }

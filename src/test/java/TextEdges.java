@@ -346,6 +346,10 @@ final class TextEdges {
             due("in place of the one before", Math.max(0, 10 - lines), () -> x.would(0, 0, 0));
             due("count", lines, () -> x.count(16));
         }
+        WaistSand again = Check.told("legs 9 9", "up 1 if 1<0 or 0<1;up 1 if not lying");
+        due("both hold", 7, () -> again.would(1, 0, 0));
+        due("told again", 2, () -> Check.law(again, "up 1 if 1<0 and 0<1;up 3 if 0<1"));
+        due("by the conditions of the latest", 6, () -> again.would(1, 0, 0));
         wrongLaw("up 1;".repeat(12) + "up 1", 60);
         wrongLaw("up 1;".repeat(12) + "   down", 63);
         wrongLaw("up 1;".repeat(12), 60);
@@ -432,6 +436,13 @@ final class TextEdges {
         due("'" + condition + "'", want ? 8 : 9, () -> depth("legs 9 9;thin 3", "up 1 if " + condition, 1, 0));
     }
 
+    private static void holdsLying(String condition, int lies, boolean want) {
+        WaistSand x = Check.told("legs 9 9");
+        x.moved(lies == 1 ? 6 : 5, 0);
+        Check.law(x, "up 1 if " + condition);
+        due("'" + condition + "' LYING " + lies, want ? 8 : 9, () -> x.would(1, 0, 0));
+    }
+
     private static void conditions() {
         Doc.says("ATOM: not ATOM | ( C ) | lying | SUM < SUM | SUM > SUM.", 5);
         holds("2<3", true);
@@ -448,6 +459,16 @@ final class TextEdges {
         holds("not not lying", false);
         holds("lying", false);
         holds("(lying)", false);
+        for (int lies = 0; lies < 2; lies++) {
+            holdsLying("lying", lies, lies == 1);
+            holdsLying("not lying", lies, lies == 0);
+            holdsLying("0<1 and lying", lies, lies == 1);
+            holdsLying("lying and 0<1", lies, lies == 1);
+            holdsLying("1<0 or lying", lies, lies == 1);
+            holdsLying("lying or 1<0", lies, lies == 1);
+            holdsLying("0<1 and (1<0 or not lying)", lies, lies == 0);
+            holdsLying("1<0 or (0<1 and (1<0 or (0<1 and (1<0 or lying))))", lies, lies == 1);
+        }
         Doc.says("C: ALL { or ALL }; ALL: ATOM { and ATOM };", 5);
         holds("0<1 or 0<1 and 1<0", true);
         holds("(0<1 or 0<1) and 1<0", false);
@@ -562,10 +583,35 @@ final class TextEdges {
         wrongLaw("up 1 when lying", 5);
         wrongLaw("up 1 if legs<1", 8);
         wrongLaw("up 1 if leg<1 xor lying", 14);
+        letters();
         Doc.says("of a LINE, a PERSON too many, the first word)", 6);
         wrongBeach("thin 1;".repeat(14) + " thin 9", 99);
         wrongBeach("person 1 at 0 0;".repeat(6) + "person x", 96);
         wrongLaw("up 1;".repeat(12) + " up 99", 61);
+    }
+
+    /** Each word with one of its letters changed, left out or doubled is none. */
+    private static void letters() {
+        String[] lines = {"legs 1 1", "thin 1", "calm 1", "water 1", "tide 1", "slip 1", "bears 1 1 1", "heap 1 1", "shine 1 1",
+            "hole 1 1", "boards 1", "person 1 at 1 1", "move 1 up 1 down 1 stirs 1 takes 1"};
+        for (String line : lines) {
+            for (int i = 0; i < line.length(); i++) {
+                if (Character.isLetter(line.charAt(i))) {
+                    int word = line.lastIndexOf(' ', i) + 1;
+                    wrongBeach(line.substring(0, i) + "q" + line.substring(i + 1), word);
+                    wrongBeach(line.substring(0, i) + line.substring(i, i + 1).repeat(2) + line.substring(i + 1), word);
+                }
+            }
+        }
+        String[] laws = {"up 1", "down 1", "stir 1", "settle 1 if lying", "up 1 if move < thin", "up 1 if calm + water < 3", "up 1 if leg > other",
+            "up 1 if not lying and lying or lying"};
+        for (String law : laws) {
+            for (int i = 0; i < law.length(); i++) {
+                if (Character.isLetter(law.charAt(i))) {
+                    wrongLaw(law.substring(0, i) + "q" + law.substring(i + 1), law.lastIndexOf(' ', i) + 1);
+                }
+            }
+        }
     }
 
     private static void textsLength() {

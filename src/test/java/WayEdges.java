@@ -135,6 +135,8 @@ final class WayEdges {
             WaistSand x = Check.told("legs 2 0" + move(0, 1, 0, 3) + move(1, 2, 0, takes));
             due("6 by two, or " + takes + " by one", takes < 6 ? List.of(2, -1, -1) : List.of(0, 0, -1), () -> row(x, ALL, 3));
         }
+        WaistSand ends = Check.told("legs 1 1" + move(0, 1, 0, 3) + move(5, 1, 0, 3));
+        due("one that takes just so long and leads not OUT is none", List.of(10, -1), () -> row(ends, ALL, 2));
         WaistSand later = Check.told("legs 2 1" + move(0, 1, 0, 2) + move(1, 1, 0, 2) + move(2, 2, 0, 3));
         due("a later one may be greater: 4 first is 5 MINUTES", List.of(1, 4, -1), () -> row(later, ALL, 3));
         WaistSand state = Check.told("legs 3 0" + move(1, 1, 0, 1) + move(6, 0, 0, 1), "up 1 if lying");
@@ -206,6 +208,15 @@ final class WayEdges {
                 due(fact + " " + l + ": 4 MINUTES up to 7, 2 then", l == 7 ? 2 : 0, () -> x.worth(w));
                 due("nothing is done", List.of(what == 1 ? l : 0, what == 2 ? l : 0, 0, 0), () -> List.of(x.count(4), x.count(5), x.count(7),
                     x.count(18)));
+            }
+            String asked = "up 1;up 1 if not lying and lying;up 1 if not(leg+5<3 or thin+thin>7) and (lying or 2<1 or " + fact + "+1>8)";
+            WaistSand behind = Check.told("legs 4 0;" + fact + " 7", asked);
+            due("asked for behind much else: 3 MINUTES by lying back, 2 then", 1, () -> behind.worth(w));
+            for (String sum : new String[] {"7", "thin+7", "7+other+thin", "thin+move+7+other"}) {
+                String set = "up 1;up 1 if " + sum + "<" + fact + ";up 1 if move+" + sum + "<" + fact;
+                due(sum + "<" + fact + ": 4 MINUTES, 2 by jerks then", 2, () -> Check.told("legs 4 0;" + fact + " 7", set).worth(w));
+                String turned = "up 1;up 2 if " + fact + ">move+" + sum;
+                due(fact + ">move+" + sum + ": 4 MINUTES, 2 by jerks then", 2, () -> Check.told("legs 4 0;" + fact + " 7", turned).worth(w));
             }
             WaistSand most = Check.told("legs 4 0;" + fact + " 8", "up 1;up 3 if " + fact + ">8");
             due(fact + " 8: 4 MINUTES, 1 then", 3, () -> most.worth(w));
@@ -293,6 +304,13 @@ final class WayEdges {
         due("DEPTHS, 0 at least and 9 at most", 4, () -> Check.told("legs 0 9" + move(1, 1, 1, 4), others).round());
         due("DEPTHS, never back", -1, () -> Check.told("legs 5 5" + move(1, 1, 0, 4), others).round());
         due("a way back that leads OUT is none", -1, () -> Check.told("legs 1 0", "up 1 if leg+other>0;down 1 if leg+other<1;stir 1").round());
+        for (int move = 0; move < 7; move++) {
+            String alone = "stir 1 if move<" + move + " or move>" + move;
+            WaistSand low = move == 6 ? lyingOne("legs 5 4", alone + " or leg<5") : Check.told("legs 5 4", alone + " or leg<5");
+            due("by MOVE " + move + " of LEG 0 alone", 1, low::round);
+            WaistSand high = move == 6 ? lyingOne("legs 4 5", alone + " or leg>4") : Check.told("legs 5 4", alone + " or leg>4");
+            due("by MOVE " + move + " of LEG 1 alone", move == 5 ? -1 : 1, high::round);
+        }
         StringBuilder takes = new StringBuilder("legs 4 4");
         for (int move = 0; move < 7; move++) {
             takes.append(move(move, 0, 0, move == 6 ? 3 : move == 4 ? 8 : 30));
