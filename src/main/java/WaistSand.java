@@ -524,11 +524,12 @@ public final class WaistSand {
     }
 
     private int helps(int move) {
-        int all = waysAsItIs().search(now.body.pose, ALL_MOVES, true);
+        Ways asItIs = waysAsItIs();
+        int all = asItIs.search(now.body.pose, ALL_MOVES, true);
         if (all == NONE) {
             return NONE;
         }
-        int without = ways.search(now.body.pose, ALL_MOVES & ~(1 << move), true);
+        int without = asItIs.search(now.body.pose, ALL_MOVES & ~(1 << move), true);
         return without == NONE ? NEVER_WITHOUT : without - all;
     }
 
@@ -1025,7 +1026,7 @@ public final class WaistSand {
             }
             int bits = 0;
             int at = from;
-            while (at < to) {
+            for (int parts = from; parts < to && at < to; parts++) {
                 int last = bits & 1;
                 switch (code[at]) {
                     case LESS:
@@ -1049,7 +1050,7 @@ public final class WaistSand {
 
         boolean asks(int fact) {
             int at = 0;
-            while (at < code.length) {
+            for (int parts = 0; parts < code.length && at < code.length; parts++) {
                 if (code[at] == LESS) {
                     int end = at + 3 + 2 * code[at + 2];
                     for (int i = at + 3; i < end; i += 2) {
@@ -1739,9 +1740,8 @@ public final class WaistSand {
 
         /** Backwards by time, as a state leads OUT in time just if one behind it does. */
         private void markLeading(int set, int time) {
-            Arrays.fill(leads, false);
-            for (int state = 0; state < Pose.OUT; state++) {
-                leads[state] = minutes[state] == time;
+            for (int state = 0; state < Pose.ALL; state++) {
+                leads[state] = Pose.isOut(state) && minutes[state] == time;
             }
             for (int i = ordered - 1; i >= 0; i--) {
                 leads[order[i]] = leadingStep(order[i], set) != NONE;

@@ -757,6 +757,7 @@ final class BodyEdges {
         all.image();
         all.undo();
         due("the TAPE stays", true, () -> all.end(6));
+        due("PERSON 0: WEIGHT, CELL", List.of(1, 0), () -> List.of(all.person(0, 0), all.person(0, 1)));
         due("fault() stays", 0, all::fault);
         due("it is of no talk", 0, () -> all.count(4));
         all.back();
@@ -844,6 +845,7 @@ final class BodyEdges {
         due("gone back", true, x::back);
         due("all is as it was", before, () -> scene(x));
         due("HEAP, SHINE", List.of(1, 0, 0), () -> List.of(x.cell(0, 1), x.cell(1, 1), x.cell(0, 2)));
+        due("PERSON 0: WEIGHT, CELL", List.of(6, 0), () -> List.of(x.person(0, 0), x.person(0, 1)));
         due("MOVE 1", List.of(1, 2, 3, 4), () -> List.of(x.move(1, 0), x.move(1, 1), x.move(1, 2), x.move(1, 3)));
         due("THE LAW: 8 less 2, less 1, less 1", 4, () -> x.would(2, 1, 1));
         due("fault() stays", 7, x::fault);

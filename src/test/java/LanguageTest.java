@@ -22,12 +22,23 @@ public final class LanguageTest {
         Check.due("signs", source.chars().allMatch(c -> c < 127), true);
         Check.due("classes", count(code, "\\b(class|interface|enum|record) \\w+") <= 12, true);
         Check.due("imports", count(code, "(?m)^import "), 2);
+        rows(code);
         methods(code);
         Check.ends("LanguageTest");
     }
 
     private static int count(String code, String pattern) {
         return (int) Pattern.compile(pattern).matcher(code).results().count();
+    }
+
+    /** Rule 4: Arrays' functions over rows of numbers alone. */
+    private static void rows(String code) {
+        Matcher uses = Pattern.compile("Arrays\\.\\w+\\((\\w+)").matcher(code);
+        while (uses.find()) {
+            boolean ofNumbers = count(code, "\\b(int|long|byte|char|short)\\[\\] " + uses.group(1) + "\\b") > 0;
+            boolean ofOthers = count(code, "\\b(boolean|[A-Z]\\w+)\\[\\] " + uses.group(1) + "\\b") > 0;
+            Check.due("numbers in " + uses.group(1), ofNumbers && !ofOthers, true);
+        }
     }
 
     private static void methods(String code) {

@@ -126,6 +126,16 @@ final class TextEdges {
         x.end(6);
         due("the first ones", 1, x::beach);
         due("thin 1", 1, () -> x.count(2));
+        Check.tape(x, "thin 2;thin 34");
+        x.end(6);
+        due("what stood behind them is not read: a sign", 2, x::beach);
+        Check.tape(x, "thin 3 4");
+        x.end(7);
+        due("what stood behind them is not read: a number", 3, x::beach);
+        Check.tape(x, "thin 4if");
+        x.end(6);
+        due("what stood behind them is not read: a word", 4, x::beach);
+        due("thin 4", 4, () -> x.count(2));
         Doc.says("false, and nothing happens, if it has fewer, or n is below 0.", 3);
         feedBlanks(x);
         for (int n : new int[] {21, 400, 401, MOST, -1, LEAST}) {
@@ -292,6 +302,10 @@ final class TextEdges {
         due("an empty TAPE", 1, blank::beach);
         due("one blank", 2, () -> Check.beach(blank, " "));
         due("400 blanks", 3, () -> Check.beach(blank, " ".repeat(400)));
+        due("400 bytes, a LINE at their end", 4, () -> Check.beach(blank, " ".repeat(394) + "thin 1"));
+        due("400 bytes, a LINE at their begin", 5, () -> Check.beach(blank, "thin 2" + " ".repeat(394)));
+        String law = "up 1 if " + "lying or ".repeat(43) + "1>0  ";
+        due("a law of 400 bytes", List.of(400, 1), () -> List.of(law.length(), Check.law(blank, law)));
         due("a law of an empty TAPE", 0, blank::law);
         due("a law of one blank", 0, () -> Check.law(blank, " "));
         due("a law of 400 blanks", 0, () -> Check.law(blank, " ".repeat(400)));
@@ -350,6 +364,14 @@ final class TextEdges {
         due("both hold", 7, () -> again.would(1, 0, 0));
         due("told again", 2, () -> Check.law(again, "up 1 if 1<0 and 0<1;up 3 if 0<1"));
         due("by the conditions of the latest", 6, () -> again.would(1, 0, 0));
+        due("told again", 1, () -> Check.law(again, "up 2 if 1<0"));
+        due("by a condition that does not hold", 9, () -> again.would(1, 0, 0));
+        due("told again", 1, () -> Check.law(again, "up 2"));
+        due("without a condition", 7, () -> again.would(1, 0, 0));
+        for (int i = 0; i < 9; i++) {
+            due("a long one, again and again", 1, () -> Check.law(again, "up 3 if " + "lying or ".repeat(43) + "0<1"));
+        }
+        due("by the long one", 6, () -> again.would(1, 0, 0));
         wrongLaw("up 1;".repeat(12) + "up 1", 60);
         wrongLaw("up 1;".repeat(12) + "   down", 63);
         wrongLaw("up 1;".repeat(12), 60);
@@ -424,6 +446,14 @@ final class TextEdges {
         fact("thin", 3, 1, 0);
         fact("calm", 7, 1, 0);
         fact("water", 8, 1, 0);
+        WaistSand acts = Check.told("legs 9 9;calm 7;water 8", "up 1 if calm>6 and calm<8;up 2 if water>7 and water<9");
+        due("calm and water, in an act", 15, () -> acts.moved(1, 0));
+        acts.talk();
+        due("water alone holds on", 13, () -> acts.moved(1, 1));
+        acts.undo();
+        acts.undo();
+        acts.pour();
+        due("calm alone holds on", 14, () -> acts.moved(1, 1));
         WaistSand x = Check.told("legs 9 9;thin 3;move 1 up 0 down 0 stirs 2 takes 1", "up 1 if thin>3;down 1 if lying");
         due("THIN behind it is not looked at", 9, () -> x.would(1, 0, 0));
         WaistSand lies = Check.told("legs 5 5", "up 1 if lying");

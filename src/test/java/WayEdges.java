@@ -68,8 +68,49 @@ final class WayEdges {
         due("as much down as up", -1, () -> Check.told("legs 0 1" + move(1, 1, 1, 1)).soonest(ALL));
         due("9 is the deepest: 9 9, 0 9, 9 0", -1, () -> Check.told("legs 9 9" + move(1, 9, 9, 1)).soonest(ALL));
         due("from the BODY as it is", 1, () -> lyingOne("legs 1 0", "up 1 if lying and move<1").soonest(ALL));
+        soonestAgain();
+        soonestTwoWays();
         Doc.says("SOONEST; NONE.", 18);
         due("none", -1, () -> Check.told("legs 9 9").soonest(ALL));
+    }
+
+    /** Asked again behind whatever can change the answer: as all is then. */
+    private static void soonestAgain() {
+        WaistSand x = Check.told("legs 4 0;calm 1" + move(1, 1, 0, 3));
+        due("by 1 each", 12, () -> x.soonest(ALL));
+        x.image();
+        Check.beach(x, "thin 1" + move(1, 2, 0, 3));
+        due("a MOVE told anew", 6, () -> x.soonest(ALL));
+        Check.law(x, "up 2 if calm<2");
+        due("a law, by each MOVE of 1 MINUTE", 2, () -> x.soonest(ALL));
+        x.talk();
+        due("behind talk", 6, () -> x.soonest(ALL));
+        x.undo();
+        due("undone", 2, () -> x.soonest(ALL));
+        Check.law(x, "up 2 if water>0");
+        due("another law", 6, () -> x.soonest(ALL));
+        x.pour();
+        due("behind water", 2, () -> x.soonest(ALL));
+        Check.law(x, "");
+        due("no LINE of a law", 6, () -> x.soonest(ALL));
+        x.moved(1, 0);
+        due("behind a MOVE", 3, () -> x.soonest(ALL));
+        x.back();
+        due("gone back", 12, () -> x.soonest(ALL));
+    }
+
+    /**
+     * From 2 4 one MOVE of 10 MINUTES leads to 0 4 and to 2 0. Two of 3 lead to 0 4 sooner, but there the way ends;
+     * from 2 0 two of 3 lead OUT.
+     */
+    private static void soonestTwoWays() {
+        WaistSand x = Check.told("legs 2 4" + move(0, 0, 0, 10) + move(1, 0, 0, 3),
+            "up 4 if move<1 and (leg<3 or other>1);up 1 if move>0 and move<2 and leg<3");
+        due("by the one that is not come to sooner", List.of(16, 16), () -> List.of(x.soonest(3), x.soonest(ALL)));
+        due("its row", List.of(1, 2, 2, -1), () -> row(x, ALL, 4));
+        due("all but it", -1, () -> x.soonest(ALL & ~1));
+        // LEG 0 at 2, 1, 0 with LEG 1 at 4, and at 2, 1, 0 with LEG 1 at 0, each standing and lying.
+        due("each state once", 12, x::more);
     }
 
     private static void sets() {
@@ -218,6 +259,11 @@ final class WayEdges {
                 String turned = "up 1;up 2 if " + fact + ">move+" + sum;
                 due(fact + ">move+" + sum + ": 4 MINUTES, 2 by jerks then", 2, () -> Check.told("legs 4 0;" + fact + " 7", turned).worth(w));
             }
+            for (String law : new String[] {"", "up 1", "up 1 if leg<9", "up 1 if 0<1", "up 1 if 0<1 or not lying", "up 1 if not(lying and 1<0)",
+                "up 1 if leg+other>thin", "up 1 if 1>0;up 0 if 1<0", "up 1 if not " + fact + ">9"}) {
+                WaistSand unlike = Check.told("legs 4 0;" + fact + " 7", law);
+                due(fact + " makes no difference to '" + law + "'", law.isEmpty() ? -99 : 0, () -> unlike.worth(w));
+            }
             WaistSand most = Check.told("legs 4 0;" + fact + " 8", "up 1;up 3 if " + fact + ">8");
             due(fact + " 8: 4 MINUTES, 1 then", 3, () -> most.worth(w));
             Check.beach(most, fact + " 9");
@@ -226,6 +272,8 @@ final class WayEdges {
         }
         WaistSand both = Check.told("legs 4 0;calm 1;water 1", "up 1;up 1 if calm>1;up 3 if water>1");
         due("each alone", List.of(2, 3), () -> List.of(both.worth(1), both.worth(2)));
+        WaistSand unlike = Check.told("legs 4 0;calm 2;water 5", "up 1;up 1 if calm>2 and water>4;up 3 if water>5 and calm<3");
+        due("the other one as it is", List.of(2, 3), () -> List.of(unlike.worth(1), unlike.worth(2)));
         Doc.says("each may be below 0;", 21);
         due("lying first", -1, () -> Check.told("legs 3 0", "up 3 if not lying;up 1 if lying").worth(0));
         due("talk", -2, () -> Check.told("legs 3 0", "up 2 if calm<1;up 1").worth(1));
@@ -303,7 +351,8 @@ final class WayEdges {
         due("DEPTHS, there and back", 8, () -> Check.told("legs 5 5" + move(1, 1, 1, 4), others).round());
         due("DEPTHS, 0 at least and 9 at most", 4, () -> Check.told("legs 0 9" + move(1, 1, 1, 4), others).round());
         due("DEPTHS, never back", -1, () -> Check.told("legs 5 5" + move(1, 1, 0, 4), others).round());
-        due("a way back that leads OUT is none", -1, () -> Check.told("legs 1 0", "up 1 if leg+other>0;down 1 if leg+other<1;stir 1").round());
+        due("a way back that leads OUT is none", -1, () -> Check.told("legs 1 0", "up 1;down 1 if leg+other<1;stir 1 if leg+other>0;"
+            + "settle 1 if leg+other<1").round());
         for (int move = 0; move < 7; move++) {
             String alone = "stir 1 if move<" + move + " or move>" + move;
             WaistSand low = move == 6 ? lyingOne("legs 5 4", alone + " or leg<5") : Check.told("legs 5 4", alone + " or leg<5");
@@ -315,9 +364,14 @@ final class WayEdges {
         for (int move = 0; move < 7; move++) {
             takes.append(move(move, 0, 0, move == 6 ? 3 : move == 4 ? 8 : 30));
         }
+        WaistSand wide = Check.told("legs 9 9" + move(1, 1, 0, 1) + move(2, 0, 1, 1) + ";move 4 up 0 down 0 stirs 1 takes 1",
+            "settle 1 if move>2 and move<4");
+        due("among all states there are", List.of(1200, 1), () -> List.of(wide.more(), wide.round()));
         due("LYING: the least that does not lie back", 8, () -> Check.told(takes.toString()).round());
         due("LYING: lying back again", 3, () -> lyingOne(takes.toString(), "").round());
         due("stands, lies, stands", 11, () -> Check.told(takes.toString(), "stir 1 if not lying and move<6").round());
+        WaistSand sooner = Check.told(takes.toString() + move(5, 9, 0, 2), "stir 1 if not lying and move<6");
+        due("also if one can be OUT sooner", List.of(2, 11), () -> List.of(sooner.soonest(ALL), sooner.round()));
         due("DROWNED is not looked at", 1, () -> Check.told("legs 1 1;tide 0").round());
         Doc.says("ROUND; NONE.", 24);
         due("none", -1, () -> Check.told("legs 9 1", "up 1").round());
@@ -380,6 +434,10 @@ final class WayEdges {
         due("THIN settles to 3: 8 less 1 less 5", 1 + 10, () -> Check.told("legs 9 9;thin 4", "settle 1").run(1, 8));
         due("THIN settles to 1: 8 less 2 less 5", 3 + 18, () -> Check.told("legs 9 9;thin 4", "settle 1").run(3, 8));
         due("resting one lies on since MINUTE 1", 1 + 1 + 4, () -> lyingOne("legs 9 9", "").run(1, 8));
+        String facts = "up 1 if calm>2 and calm<4;up 2 if water>5 and water<7";
+        due("by CALM and WATER as they are", 2 + 6, () -> Check.told("legs 9 9;calm 3;water 6", facts).run(2, 8));
+        due("by CALM alone", 2 + 14, () -> Check.told("legs 9 9;calm 3;water 3", facts).run(2, 8));
+        due("by WATER alone", 2 + 10, () -> Check.told("legs 9 9;calm 6;water 6", facts).run(2, 8));
         WaistSand x = Check.told(rest);
         x.run(200, 8);
         due("nothing stays", List.of(9, 9, 0, 0, 0, 0), () -> List.of(x.count(0), x.count(1), x.count(6), x.count(7), x.count(17), x.count(18)));
