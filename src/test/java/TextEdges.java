@@ -320,6 +320,11 @@ final class TextEdges {
             due(lines + " LINES", 1, () -> Check.beach(x, "thin 1;".repeat(lines - 1) + "thin 2"));
             due("the last one counts", 2, () -> x.count(2));
         }
+        for (String last : new String[] {"move 6 up 9 down 8 stirs 5 takes 30", "person 9 at 7 7", "bears 7 7 9", "legs 9 9"}) {
+            rightBeach("thin 1;".repeat(13) + last);
+        }
+        WaistSand last = Check.told("thin 1;".repeat(13) + "move 6 up 9 down 8 stirs 5 takes 30");
+        due("a 14th one of many numbers", List.of(9, 8, 5, 30), () -> List.of(last.move(6, 0), last.move(6, 1), last.move(6, 2), last.move(6, 3)));
         wrongBeach("thin 1;".repeat(14) + "thin 2", 98);
         wrongBeach("thin 1;".repeat(14) + "  boards", 100);
         wrongBeach("thin 1;".repeat(14) + ";", 98);
